@@ -1643,6 +1643,8 @@ public final class WindingSquare {
         private final int[] queue = new int[STANDS];
         private final int[] counts = new int[(MOST_TURNS + 1) * STANDS];
         private final int[] stepped = new int[(MOST_TURNS + 1) * STANDS];
+        private final int[] lefts = new int[4];
+        private final int[] rights = new int[4];
 
         Grid(int[] cells) {
             this.cells = cells;
@@ -1690,18 +1692,17 @@ public final class WindingSquare {
             return fewest >= FAR_OFF ? NONE : fewest;
         }
 
-        /** Between two steps stand only lefts or only rights, so turns are counted by whole runs. */
         int countRows(int from, int facing, int to, int steps, int turns) {
             Arrays.fill(stepped, 0);
             stepped[CELLS * facing + from] = 1;
-            turnInRuns(turns);
+            turnEverywhere(turns);
             for (int i = 0; i < steps; i++) {
                 stepOn(turns);
-                turnInRuns(turns);
+                turnEverywhere(turns);
             }
             int sum = 0;
             for (int f = 0; f < 4; f++) {
-                sum = (sum + counts[STANDS * turns + CELLS * f + to]) % MODULUS;
+                sum = plus(sum, counts[STANDS * turns + CELLS * f + to]);
             }
             return sum;
         }
@@ -1814,22 +1815,28 @@ public final class WindingSquare {
             System.arraycopy(turned, 0, costs, 0, STANDS);
         }
 
-        private void turnInRuns(int turns) {
-            Arrays.fill(counts, 0);
-            for (int i = 0; i < STANDS * (turns + 1); i++) {
-                int v = stepped[i];
-                if (v == 0) {
-                    continue;
-                }
-                int used = i / STANDS;
-                int facing = i % STANDS / CELLS;
-                int cell = i % CELLS;
-                addTo(counts, i, v);
-                for (int run = 1; used + run <= turns; run++) {
-                    int base = STANDS * (used + run) + cell;
-                    addTo(counts, base + CELLS * (facing + run & 3), v);
-                    addTo(counts, base + CELLS * (facing - run & 3), v);
-                }
+        private void turnEverywhere(int turns) {
+            for (int i = 0; i < CELLS; i++) {
+                turnAt(i, turns);
+            }
+        }
+
+        /**
+         * Between two steps stand only lefts or only rights, so both are carried apart: by the sum of turns and
+         * facing, which a left leaves as it is, and by their difference, which a right leaves as it is.
+         */
+        private void turnAt(int cell, int turns) {
+            Arrays.fill(lefts, 0);
+            Arrays.fill(rights, 0);
+            for (int i = 0; i < 4 * (turns + 1); i++) {
+                int facing = i % 4;
+                int used = i / 4;
+                int left = facing + used & 3;
+                int right = facing - used & 3;
+                int v = stepped[CELLS * i + cell];
+                counts[CELLS * i + cell] = plus(v, plus(lefts[left], rights[right]));
+                lefts[left] = plus(lefts[left], v);
+                rights[right] = plus(rights[right], v);
             }
         }
 
@@ -1845,9 +1852,9 @@ public final class WindingSquare {
             }
         }
 
-        private static void addTo(int[] row, int i, int v) {
-            int sum = row[i] + v;
-            row[i] = sum >= MODULUS ? sum - MODULUS : sum;
+        private static int plus(int a, int b) {
+            int sum = a + b;
+            return sum >= MODULUS ? sum - MODULUS : sum;
         }
 
         /** Halves upwards; the divisor is above 0. */
