@@ -721,7 +721,6 @@ public final class WindingSquare {
         static final int WALKER = 149;
         static final int AHEAD = 150;
         static final int LEFT = 151;
-        static final int BACK = 153;
         static final int WAIT = 154;
         static final int FROM = 155;
         static final int BLIND = 156;

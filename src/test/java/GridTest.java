@@ -373,6 +373,13 @@ public final class GridTest {
             y.lay(i, i, 1);
         }
         due.is("a chain by corners parts", y.apart(0), 0);
+        for (int row = 0; row < 12; row += 11) {
+            WindingSquare z = new WindingSquare();
+            Due.tell(z, 1, "stone 0 " + row + " to 11 " + row + ";");
+            due.is("a side of stones", z.apart(0), 0);
+            z.lay(11, row, 3);
+            due.is("but for its corner", z.apart(0), 1);
+        }
         y.lay(5, 5, 0);
         due.is("but for one", y.apart(1), 1);
     }

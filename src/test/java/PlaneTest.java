@@ -193,6 +193,8 @@ public final class PlaneTest {
     }
 
     private static void game() {
+        due.is("where, asked first", new WindingSquare().game(3, 2, 1), 4);
+        due.is("value, asked first", new WindingSquare().game(2, 1, 0), 2);
         WindingSquare g = new WindingSquare();
         Map<Integer, Integer> known = new HashMap<>();
         for (int y = 0; y <= 30; y++) {

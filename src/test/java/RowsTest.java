@@ -48,6 +48,14 @@ public final class RowsTest {
         due.is("round(4)", x.round(4), -100);
         due.is("emptied", x.move(-1), 0);
         due.is("home", x.round(1), 0);
+        WindingSquare y = new WindingSquare();
+        int[] moves = {0, 0, 2, 0, 2, 0, 0, 2, 0};
+        for (int v : moves) {
+            y.move(v);
+        }
+        due.is("about, asked first", y.round(3), 4);
+        y.move(0);
+        due.is("about, not at home", y.round(3), -1);
         due.is("row -2", x.gap(-2, 0), -1);
         due.is("row 8", x.gap(8, 0), -1);
         due.is("at -1", x.gap(0, -1), -1);

@@ -53,6 +53,14 @@ public final class TextTest {
         due.fault(0, "Slips 1;", 1, 0);
         due.fault(0, "slipss 1;", 1, 0);
         due.fault(0, "slip 1;", 1, 0);
+        due.fault(0, "slipsA 1;", 1, 0);
+        due.fault(0, "slipsZ 1;", 1, 0);
+        due.fault(0, "slipsz 1;", 1, 0);
+        due.fault(0, "slips@1;", 1, 5);
+        due.fault(0, "slips[1;", 1, 5);
+        due.fault(0, "slips`1;", 1, 5);
+        due.fault(0, "slips{1;", 1, 5);
+        due.fault(0, "slips:1;", 1, 5);
         due.fault(0, "slips hastex;", 1, 6);
         due.fault(0, "slips 1 + ;", 1, 10);
         due.fault(0, "slips (1);", 1, 6);
