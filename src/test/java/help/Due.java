@@ -2,13 +2,30 @@
 final class Due {
     private int asked;
     private int wrong;
+    private int sentences;
+    private int askedBefore;
+    private String sentence = "";
+
+    /** The sentence of the document that the next answers hold to; a sentence without answers is wrong. */
+    void about(String where, String words) {
+        settle();
+        sentences++;
+        sentence = where + " (" + words + "): ";
+    }
+
+    private void settle() {
+        if (!sentence.isEmpty() && asked == askedBefore) {
+            is("answers asked", 0, 1);
+        }
+        askedBefore = asked;
+    }
 
     void is(String call, long got, long want) {
         asked++;
         if (got != want) {
             wrong++;
             if (wrong <= 40) {
-                System.out.println(call + " answered " + got + ", due is " + want);
+                System.out.println(sentence + call + " answered " + got + ", due is " + want);
             }
         }
     }
@@ -17,9 +34,25 @@ final class Due {
         is(call, got ? 1 : 0, want ? 1 : 0);
     }
 
+    /** Two long tellings that must be alike; only where they part is printed. */
+    void same(String what, String got, String want) {
+        int at = 0;
+        while (at < Math.min(got.length(), want.length()) && got.charAt(at) == want.charAt(at)) {
+            at++;
+        }
+        boolean alike = got.equals(want);
+        String parts = alike ? "" : " parts at '" + around(got, at) + "' from '" + around(want, at) + "'";
+        is(what + parts, alike, true);
+    }
+
+    private static String around(String text, int at) {
+        return text.substring(Math.max(0, at - 60), Math.min(text.length(), at + 20));
+    }
+
     /** Ends the test, with exit code 1 if an answer was wrong. */
     void end() {
-        System.out.println(asked + " answers, " + wrong + " wrong");
+        settle();
+        System.out.println((sentences == 0 ? "" : sentences + " sentences, ") + asked + " answers, " + wrong + " wrong");
         if (wrong != 0 || asked == 0) {
             System.exit(1);
         }
@@ -39,6 +72,13 @@ final class Due {
     static int tell(WindingSquare x, int k, String text) {
         tape(x, text);
         return x.text(k);
+    }
+
+    /** Tells a text that is good; the test itself is wrong if it is not. */
+    static void good(WindingSquare x, int k, String text) {
+        if (tell(x, k, text) < 0) {
+            throw new IllegalStateException("a fault " + x.fault(0) + " at " + x.fault(1) + " of '" + text + "'");
+        }
     }
 
     /** A text that has a fault there. */
