@@ -305,17 +305,9 @@ public final class EdgeAskTest {
         x.hedge();
     }
 
-    private static WindingSquare at9999(WindingSquare x) {
-        while (x.look(2) < 9960) {
-            x.minutes(60);
-        }
-        x.minutes(39);
-        return x;
-    }
-
     private static void above9999() {
         due.about("Terms 4", "MINUTE goes on above 9999 there");
-        WindingSquare x = at9999(walkers(2));
+        WindingSquare x = Due.atMinute(walkers(2), 9999);
         due.is("the last minute", x.look(2), 9999);
         x.comes(0, 0, 4);
         due.is("none of it goes by", x.minutes(1), -1);

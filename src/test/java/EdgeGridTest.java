@@ -59,6 +59,15 @@ public final class EdgeGridTest {
         due.is("from the first to the last, facing 0", x.far(0, 0, 143, -1), 23);
         due.is("from the last to the first, facing 0", x.far(143, 0, 0, -1), 24);
         due.is("from the last to the first, facing 3", x.far(143, 3, 0, -1), 23);
+        int[][] sides = {{0, 0, 132}, {0, 1, 11}, {143, 2, 11}, {143, 3, 132}};
+        for (int[] s : sides) {
+            due.is("along a side", x.far(s[0], s[1], s[2], 0), 11);
+            due.is("along a side with one at the end", x.far(s[0], s[1], s[2], 1), 11);
+            due.is("along a side, the least", x.far(s[0], s[1], s[2], -1), 11);
+            due.is("across with one", x.far(s[0], s[1], 143 - s[0], 1), 22);
+            due.is("across with two", x.far(s[0], s[1], 143 - s[0], 2), 22);
+            due.is("across with six", x.far(s[0], s[1], 143 - s[0], 6), 22);
+        }
         due.is("12 is y 1", x.far(0, 0, 12, -1), 1);
         due.is("1 is x 1", x.far(0, 1, 1, -1), 1);
         for (int t = 0; t <= 6; t++) {
@@ -164,6 +173,10 @@ public final class EdgeGridTest {
         due.is("n 20, t 1", x.with(0, 0, at(11, 9), 201), 1);
         due.is("n 20, t 1, the last cell", x.with(143, 2, at(0, 2), 201), 1);
         due.is("n 20, t 6", x.with(0, 0, at(11, 9), 206) > 0, true);
+        for (int facing = 0; facing < 4; facing++) {
+            int to = new int[] {66 + 12, 66 + 1, 66 - 12, 66 - 1}[facing];
+            due.is("facing " + facing, x.with(66, facing, to, 10), 1);
+        }
     }
 
     private static void withStones() {
@@ -360,11 +373,38 @@ public final class EdgeGridTest {
             x.lay(i, i, 1);
         }
         due.is("by both ends", x.apart(0), 2);
+        x = new WindingSquare();
+        for (int i = 0; i < 12; i++) {
+            x.lay(i, 11 - i, 1);
+        }
+        due.is("nor by a corner the other way", x.apart(0), 0);
+        x.lay(6, 5, 0);
+        due.is("by the one that is taken", x.apart(0), 1);
         x = stones("stone 0 0 to 11 11");
         due.is("all stones", x.apart(0), 0);
         due.is("all stones", x.apart(1), 0);
         x = stones("stone 5 0 to 5 11");
         due.is("a column of stones", x.apart(0), 11);
+        x = stones("stone 0 3 to 5 3", "stone 5 3 to 5 8", "stone 5 8 to 11 8");
+        due.is("a wall that goes up", x.apart(0), 0);
+        x.lay(5, 6, 2);
+        due.is("a wall that goes up, with a gap", x.apart(0), 1);
+        x.lay(5, 5, 0);
+        due.is("with a gap of two", x.apart(1), 2);
+        x = stones("stone 0 8 to 5 8", "stone 5 3 to 5 8", "stone 5 3 to 11 3");
+        due.is("a wall that goes down", x.apart(0), 0);
+        x.lay(5, 6, 3);
+        due.is("a wall that goes down, with a gap", x.apart(1), 1);
+        String[] winding = {"stone 0 9 to 8 9", "stone 8 6 to 8 9", "stone 3 6 to 8 6", "stone 3 3 to 3 6", "stone 3 3 to 11 3"};
+        x = stones(winding);
+        due.is("a wall that goes back and forth", x.apart(0), 0);
+        due.is("a wall that goes back and forth", x.apart(1), 0);
+        x.lay(6, 6, 0);
+        due.is("with a gap", x.apart(0), 1);
+        x.lay(5, 3, 0);
+        due.is("with a gap behind a gap", x.apart(0), 2);
+        String[] back = {"stone 0 2 to 8 2", "stone 8 2 to 8 5", "stone 3 5 to 8 5", "stone 3 5 to 3 8", "stone 3 8 to 11 8"};
+        due.is("and so upwards", stones(back).apart(0), 0);
         x = stones("snow 0 5 to 5 5", "sign 6 5 to 11 5");
         x.walker(0);
         x.comes(0, 0, 4);

@@ -144,6 +144,12 @@ public final class EdgePlaneTest {
             due.is("beyond in x", x.duel(55, c[0] + (c[0] > 0 ? 1 : -1), c[1]), -1);
             due.is("beyond in y", x.duel(55, c[0], c[1] + (c[1] > 0 ? 1 : -1)), -1);
         }
+        int[][] near = {{20, 0}, {-20, 0}, {0, 20}, {0, -20}};
+        int[][] beyond = {{21, 5}, {-21, 5}, {5, 21}, {5, -21}};
+        for (int i = 0; i < 4; i++) {
+            due.is("four steps of 5 by 1", x.duel(51, near[i][0], near[i][1]), 4);
+            due.is("five steps would be", x.duel(51, beyond[i][0], beyond[i][1]), -1);
+        }
         due.is("20, 0", x.duel(50, 20, 0), 4);
         due.is("25, 0 can't be asked", x.duel(50, 25, 0), -1);
         due.is("0, -25 can't be asked", x.duel(50, 0, -25), -1);
@@ -172,6 +178,12 @@ public final class EdgePlaneTest {
         due.is("2 by 2 never to odd ones", x.duel(22, 3, 3), -1);
         due.is("4 by 2 never to odd ones", x.duel(42, 2, 1), -1);
         due.is("there and back by great steps", x.duel(45, 0, 1) > 0, true);
+        for (int i = 0; i < 2; i++) {
+            due.is("one asked behind another", x.duel(55, -20, 20), 4);
+            due.is("one asked behind another", x.duel(10, 6, -6), 12);
+            due.is("one asked behind another", x.duel(21, 1, 1), 2);
+            due.is("one asked behind another", x.duel(10, 12, 0), 12);
+        }
     }
 
     private static void antBounds() {

@@ -140,6 +140,7 @@ public final class EdgeRowsTest {
         int[] want = {1, 2, 2, 1, 2, 4, 1, 6, 4, 2, 2, 1, 2, 6, 24, 12, 24, 12};
         for (int i = 0; i < first.length; i++) {
             due.is("of " + first[i], rows(first[i], "01").one(1), want[i]);
+            due.is("of " + first[i] + ", the second empty", rows(first[i], "").one(1), want[i]);
         }
     }
 
@@ -188,8 +189,13 @@ public final class EdgeRowsTest {
         }
         due.about("Promise 23", "ROUND what 0 WOUND, 1 HOME, 2 AGAIN, 3 ABOUT.");
         int[] want = {1, 2, 0, -1};
-        for (int what = 0; what <= 3; what++) {
-            due.is("what " + what, x.round(what), want[what]);
+        for (int i = 0; i < 8; i++) {
+            due.is("what " + i % 4, x.round(i % 4), want[i % 4]);
+        }
+        x = moves("0020200202");
+        int[] home = {4, 0, 1, 4};
+        for (int i = 0; i < 8; i++) {
+            due.is("what " + i % 4, x.round(i % 4), home[i % 4]);
         }
     }
 

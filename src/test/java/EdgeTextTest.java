@@ -17,6 +17,7 @@ public final class EdgeTextTest {
         numbers();
         keywords();
         ends();
+        endsTooSoon();
         partByZero();
         bounds();
         walkersThatAreNot();
@@ -100,6 +101,21 @@ public final class EdgeTextTest {
             due.is("where it lies", x.fault(1), n <= 380 ? n : -1);
         }
         due.is("a text of 400", tellFull(), 16);
+        for (String token : new String[] {";", "x", "7", "(", "!", " ", "p"}) {
+            for (int k = 0; k < 4; k++) {
+                boolean blank = token.equals(" ");
+                WindingSquare full = made();
+                due.is("400 times '" + token + "'", Due.tell(full, k, many(token, 400)), blank ? 0 : -1);
+                due.is("place", full.fault(1), blank ? -1 : 0);
+            }
+        }
+        String ends = many("pays 3;", 5) + many(" ", 362);
+        due.fault(0, ends + "pay", 1, 397);
+        due.fault(0, many(" ", 396) + "pays", 1, 400);
+        due.fault(0, many(" ", 391) + "pays 1234", 1, 400);
+        due.fault(0, many(" ", 390) + "pays 12345", 1, 395);
+        due.is("a sum of 400", Due.tell(made(), 0, "pays 1" + many("+1", 196) + " ;"), 1);
+        due.is("tokens of one byte each", Due.tell(made(), 0, "pays x" + many("*x", 196) + "\n;"), 1);
     }
 
     private static int tellFull() {
@@ -130,6 +146,18 @@ public final class EdgeTextTest {
         due.is("seven yet", Snap.tape(x), 7);
         due.is("as it was", x.text(0), 1);
         due.is("pays", x.of(0, 13), 7);
+        due.about("Promise 9", "its first n bytes alone");
+        Due.tape(x, "paysx");
+        x.end(4);
+        due.is("what was cut off is no part of a word", x.text(0) == -1 ? x.fault(1) : -9, 4);
+        Due.tape(x, "pays 12345");
+        x.end(9);
+        due.is("what was cut off is no part of a number", x.text(0) == -1 ? x.fault(1) : -9, 9);
+        Due.tape(x, "pays 3; pays 4;");
+        x.end(7);
+        x.feed(0x20202020, 0x20202020, 0x20202020, 0x20202020, 0x20202020);
+        due.is("what comes then is behind the cut", x.text(0), 1);
+        due.about("Promise 9", "if it has not so many, or n is below 0");
         due.is("an empty one has not one", x.end(1), false);
         due.is("an empty one has none", x.end(0), true);
         due.is("an empty one, below 0", x.end(-1), false);
@@ -354,6 +382,12 @@ public final class EdgeTextTest {
             due.is("pays " + word, Due.tell(x, 0, "pays " + word + ";"), unit ? 1 : -1);
             due.is("place", x.fault(1), unit ? -1 : 5);
         }
+        for (char c = 'A'; c <= 'z'; c++) {
+            boolean letter = c <= 'Z' || c >= 'a';
+            due.fault(0, "pays" + c + " 3;", 1, letter ? 0 : 4);
+            due.fault(0, c + "pays 3;", 1, 0);
+            due.fault(3, "from 1 watch" + c + " 3;", 1, letter ? 7 : 12);
+        }
         due.fault(0, "paysx 3;", 1, 0);
         due.fault(0, "Pays 3;", 1, 0);
         due.fault(0, "pay 3;", 1, 0);
@@ -385,7 +419,25 @@ public final class EdgeTextTest {
             }
             text.append(" ;");
             due.is("whole", Due.tell(made(), k, text.toString()), 1);
+            due.is("whole, twice", Due.tell(made(), k, text.toString() + text), 2);
             due.fault(k, text + ";", 1, text.length());
+        }
+    }
+
+    /** A line may not end there. */
+    private static void endsTooSoon() {
+        due.about("Terms 2", "1 what can't stand there");
+        String[][] begun = {
+            {"pays", "pays 3 +", "pays 3 -", "pays 3 *", "pays 3 /", "pays 3 when", "pays 3 when not", "pays 3 when (",
+                "pays 3 when x", "pays 3 when x <", "pays 3 when (x < 3", "pays 3 when x < 3 or", "pays 3 when x < 3 and"},
+            {"snow", "snow 1", "snow 1 1 to", "snow 1 1 to 2"},
+            {"walker", "walker 1 ahead", "walker 1 wait", "walker 1 left wait"},
+            {"from", "from 1", "from 1 watch"}};
+        for (int k = 0; k < 4; k++) {
+            for (String b : begun[k]) {
+                due.fault(k, b + " ;", 1, b.length() + 1);
+                due.fault(k, b + ";" + LINES[k], 1, b.length());
+            }
         }
     }
 
@@ -400,6 +452,9 @@ public final class EdgeTextTest {
         due.fault(0, "pays 1 when x / 0 < 1;", 2, 16);
         due.fault(0, "pays 1 when 1 < y / 0;", 2, 20);
         due.is("by 1", Due.tell(made(), 0, "pays 1 / 1;"), 1);
+        due.is("by 1 it is itself", slips("7 / 1"), 7);
+        due.is("by itself it is 1", slips("9999 / 9999"), 1);
+        due.is("by one more it is 0", slips("9998 / 9999"), 0);
         due.is("by 9999", Due.tell(made(), 0, "pays 1 / 9999;"), 1);
         due.is("0 by 1", Due.tell(made(), 0, "pays 0 / 1;"), 1);
         due.is("by 0001", Due.tell(made(), 0, "pays 0 / 0001;"), 1);
@@ -510,6 +565,23 @@ public final class EdgeTextTest {
         due.is("eight nots", x.of(0, 13), 6);
         Due.good(x, 0, "pays 5 when not not not not not not not 1 = 2; pays 6;");
         due.is("seven nots", x.of(0, 13), 5);
+        Due.good(x, 0, "pays 5 when not not not not not not not not 1 = 1; pays 6;");
+        due.is("eight nots of what is so", x.of(0, 13), 5);
+        for (String so : new String[] {"1 = 1", "1 < 2", "2 > 1", "( 1 = 1 )", "1 = 2 or 1 = 1", "1 = 1 and 2 = 2"}) {
+            Due.good(x, 0, "pays 5 when not (" + so + "); pays 6;");
+            due.is("not " + so, x.of(0, 13), 6);
+            Due.good(x, 0, "pays 5 when " + so + "; pays 6;");
+            due.is(so, x.of(0, 13), 5);
+        }
+        Due.good(x, 0, "pays 5 when not 1 = 2 and 1 = 2; pays 6;");
+        due.is("a not is of its C alone", x.of(0, 13), 6);
+        Due.good(x, 0, "pays 5 when not 1 = 1 or 1 = 1; pays 6;");
+        due.is("a not is of its C alone", x.of(0, 13), 5);
+        for (String no : new String[] {"1 = 1 and ( 1 = 2 )", "( 1 = 2 ) and 1 = 1", "1 = 2 or ( 1 = 1 and 1 = 2 )",
+            "( 1 = 1 or 1 = 1 ) and ( 1 = 2 or 1 = 3 )"}) {
+            Due.good(x, 0, "pays 5 when " + no + "; pays 6;");
+            due.is(no, x.of(0, 13), 6);
+        }
     }
 
     private static void firstByPlace() {
@@ -643,17 +715,21 @@ public final class EdgeTextTest {
             x.minutes(1);
         }
         x = made();
+        Due.good(x, 0, "pays watch + 5;");
+        due.is("no watch: 0", x.of(0, 13), 5);
+        Due.good(x, 3, "from 0 watch 9; from 0 blind;");
+        due.is("blind: 0", x.of(0, 13), 5);
+        Due.good(x, 3, "from 1 watch 9;");
+        due.is("none whose minute is not above: 0", x.of(0, 13), 5);
+        x = made();
         Due.good(x, 3, "from 0 watch 4; from 2 blind; from 999 watch 1;");
         due.is("minute 0", x.of(0, 12), 800);
         x.minutes(1);
         due.is("minute 1", x.of(0, 12), 800);
         x.minutes(1);
         due.is("minute 2", x.of(0, 12), 0);
-        while (x.look(2) < 962) {
-            x.minutes(60);
-        }
-        x.minutes(36);
-        due.is("minute 998", x.look(2) == 998 ? x.of(0, 12) : -1, 0);
+        Due.atMinute(x, 998);
+        due.is("minute 998", x.of(0, 12), 0);
         x.minutes(1);
         due.is("minute 999", x.of(0, 12), 200);
         x.minutes(1);

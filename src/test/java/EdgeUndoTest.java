@@ -5,6 +5,7 @@ public final class EdgeUndoTest {
     public static void main(String[] args) {
         nothing();
         eachKind();
+        eachNumber();
         sixKept();
         sixMinutes();
         notUndoneYet();
@@ -42,6 +43,7 @@ public final class EdgeUndoTest {
         x.known(0, 1);
         x.known(1, 0);
         x.move(0);
+        x.gap(3, 20);
         x.gap(3, 7);
         x.state(4711);
         x.comes(0, 0, 4);
@@ -93,6 +95,32 @@ public final class EdgeUndoTest {
             String kept = "look11=" + twin.look(11);
             due.same("as behind " + n, Snap.of(x), Snap.of(twin).replace(kept, "look11=" + x.look(11)));
         }
+    }
+
+    /** What of a walker is told again while he is in another time. */
+    private static void eachNumber() {
+        due.about("Terms 4", "COMING, TURNING, LAYING not undone yet goes back");
+        WindingSquare x = new WindingSquare();
+        x.walker(0);
+        x.comes(0, 0, 4);
+        x.lay(4, 0, 3);
+        x.turn(0, 2);
+        x.minutes(1);
+        due.is("he comes by another side", x.comes(0, 3, 9), true);
+        due.is("side", x.of(0, 7), 3);
+        x.undo();
+        due.is("not in", x.of(0, 1), 0);
+        x.undo();
+        int[] back = {0, 1, 4, 0, 2, 2, 2, 0};
+        for (int what = 0; what <= 7; what++) {
+            due.is("of " + what, x.of(0, what), back[what]);
+        }
+        x.undo();
+        int[] before = {0, 1, 4, 0, 0, 0, 0, 0};
+        for (int what = 0; what <= 7; what++) {
+            due.is("of " + what, x.of(0, what), before[what]);
+        }
+        due.is("out by another side then", x.minutes(12), 1);
     }
 
     private static void sixKept() {
@@ -357,12 +385,38 @@ public final class EdgeUndoTest {
         Due.good(x, 2, "walker 0 back; walker 3 back;");
         Due.good(x, 3, "from 0 watch 9; from 0 watch 8;");
         x.state(1);
-        x.known(0, 2);
-        x.known(1, -1);
-        x.move(2);
-        x.gap(0, 9);
+        tellOthers(x);
         x.minutes(40);
         x.lay(6, 6, 2);
+    }
+
+    private static void tellOthers(WindingSquare x) {
+        x.known(0, -1);
+        x.known(1, -1);
+        x.move(-1);
+        x.gap(-1, 0);
+        for (int i = 0; i < 5; i++) {
+            x.known(0, 2);
+            x.known(1, 2);
+            x.move(2 - i % 3);
+            x.gap(i, 9);
+        }
+    }
+
+    /** A walker 3 who crosses, slips, is caught, and is in again by a way of his own. */
+    private static void busyFourth(WindingSquare x) {
+        x.walker(9);
+        Due.good(x, 0, "slips 1000; sees 1000;");
+        Due.good(x, 2, "walker 3 ahead 11 ahead 1;");
+        x.comes(3, 0, 11);
+        x.minutes(12);
+        due.is("crossed", x.of(3, 8), 1);
+        due.is("caught", x.of(3, 9), 1);
+        due.is("slipped", x.of(3, 10) > 0, true);
+        Due.good(x, 2, "walker 3 ahead 3 wait 11;");
+        x.comes(3, 0, 11);
+        x.minutes(2);
+        due.is("in", x.of(3, 1), 1);
     }
 
     private static void imageTwice() {
@@ -388,6 +442,8 @@ public final class EdgeUndoTest {
         x.image(true);
         change(x);
         x.image(false);
+        busyFourth(x);
+        x.image(false);
         for (int i = 0; i < 20; i++) {
             due.is("minutes", x.minutes(1), twin.minutes(1));
             due.same("goes on as it did", Snap.of(x).replaceAll("look11=.", ""), Snap.of(twin).replaceAll("look11=.", ""));
@@ -402,7 +458,7 @@ public final class EdgeUndoTest {
         due.is("the rows go on", x.known(0, 0), 2);
         due.is("the rows go on", x.known(1, 0), 2);
         due.is("the moves go on", x.move(0), 2);
-        due.is("the gaps go on", x.gap(0, 0), 2);
+        due.is("the gaps go on", x.gap(0, 0), 3);
     }
 
     private static void imageNotOf() {

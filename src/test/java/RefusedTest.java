@@ -61,8 +61,8 @@ public final class RefusedTest {
     private static String future(WindingSquare x) {
         StringBuilder b = new StringBuilder();
         b.append(x.minutes(2)).append(Snap.of(x));
-        while (x.undo()) {
-            b.append(" undone").append(Snap.of(x));
+        for (int i = 0; i < 9; i++) {
+            b.append(" undone=").append(x.undo()).append(Snap.of(x));
         }
         b.append(x.minutes(7)).append(Snap.of(x));
         b.append(" rows=").append(x.known(0, 2)).append(x.known(1, 0)).append(x.move(2)).append(x.gap(7, 1));
@@ -110,10 +110,7 @@ public final class RefusedTest {
         }
         x.comes(0, 0, 4);
         x.lay(4, 1, 1);
-        while (x.look(2) < 9960) {
-            x.minutes(60);
-        }
-        x.minutes(39);
+        Due.atMinute(x, 9999);
         x.image(true);
         for (int i = 0; i < 24; i++) {
             x.known(0, i % 3);

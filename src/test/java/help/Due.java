@@ -81,6 +81,17 @@ final class Due {
         }
     }
 
+    /** Lets minutes go by until that one; the test itself is wrong if it does not come. */
+    static WindingSquare atMinute(WindingSquare x, int minute) {
+        for (int i = 0; i < 170 && x.look(2) < minute; i++) {
+            x.minutes(Math.min(60, minute - x.look(2)));
+        }
+        if (x.look(2) != minute) {
+            throw new IllegalStateException("minute " + x.look(2) + ", not " + minute);
+        }
+        return x;
+    }
+
     /** A text that has a fault there. */
     void fault(int k, String text, int fault, int place) {
         WindingSquare x = new WindingSquare();
