@@ -176,6 +176,10 @@ public final class EdgePlaneTest {
         due.is("1 by 1 to 13, 13", x.duel(11, 13, 13), -1);
         due.is("1 by 1 to 12, 0", x.duel(11, 12, 0), 12);
         due.is("2 by 2 never to odd ones", x.duel(22, 3, 3), -1);
+        for (int[] c : new int[][] {{-19, -19}, {19, 19}, {-19, 19}, {19, -19}, {-20, 20}}) {
+            due.is("3 by 3 only to multiples of 3", x.duel(33, c[0], c[1]), -1);
+        }
+        due.is("3 by 3 to 18, -18", x.duel(33, 18, -18), 6);
         due.is("4 by 2 never to odd ones", x.duel(42, 2, 1), -1);
         due.is("there and back by great steps", x.duel(45, 0, 1) > 0, true);
         for (int i = 0; i < 2; i++) {
