@@ -745,6 +745,7 @@ public final class WindingSquare {
             }
         }
 
+        /** Each token takes one byte at the least, so that the loop goes on. */
         void scan() {
             fault = 0;
             place = NONE;
@@ -759,10 +760,10 @@ public final class WindingSquare {
                 }
                 places[n] = i;
                 if (isLetter(c)) {
-                    next = behindLetters(i);
+                    next = Math.max(next, behindLetters(i));
                     kinds[n] = keyword(i, next);
                 } else if (isDigit(c)) {
-                    next = behindDigits(i);
+                    next = Math.max(next, behindDigits(i));
                     kinds[n] = next - i > MOST_DIGITS ? BAD : NUMBER;
                     numbers[n] = valueOf(i, next);
                 } else {

@@ -42,6 +42,12 @@ public final class FaceTest {
         for (Field f : c.getDeclaredFields()) {
             due.is("hidden: " + f.getName(), Modifier.isPrivate(f.getModifiers()), !f.getName().equals("NONE"));
         }
+        for (Method m : c.getDeclaredMethods()) {
+            boolean hidden = Modifier.isPrivate(m.getModifiers());
+            due.is("hidden under a name of the face: " + m.getName(), hidden && names.contains(m.getName()), false);
+            due.is("public or hidden: " + m.getName(), hidden || Modifier.isPublic(m.getModifiers()), true);
+        }
+        fields(due, c);
         Constructor<?>[] made = c.getDeclaredConstructors();
         due.is("constructors", made.length == 1 && Modifier.isPublic(made[0].getModifiers()), true);
         int classes = 1;
@@ -49,6 +55,7 @@ public final class FaceTest {
             classes++;
             due.is("static " + inside.getName(), Modifier.isStatic(inside.getModifiers()), true);
             due.is("fields of " + inside.getName(), instanceFields(inside) <= 20, true);
+            fields(due, inside);
             for (Method m : inside.getDeclaredMethods()) {
                 due.is("a name of the face: " + m.getName(), names.contains(m.getName()), false);
                 due.is("parameters of " + m.getName(), m.getParameterCount() <= 7, true);
@@ -66,6 +73,23 @@ public final class FaceTest {
             b.append(i == 0 ? "" : ",").append(m.getParameterTypes()[i].getName());
         }
         return b.append(")").toString();
+    }
+
+    /** Static fields are final constants; all fields are of types that rule 3 leaves. */
+    private static void fields(Due due, Class<?> c) {
+        for (Field f : c.getDeclaredFields()) {
+            String name = c.getName() + "." + f.getName();
+            Class<?> type = f.getType();
+            Class<?> part = type.isArray() ? type.getComponentType() : type;
+            boolean own = part.getName().startsWith("WindingSquare$");
+            boolean plain = part == int.class || part == long.class || part == boolean.class || part == char.class;
+            if (Modifier.isStatic(f.getModifiers())) {
+                due.is("final: " + name, Modifier.isFinal(f.getModifiers()), true);
+                due.is("a constant: " + name, plain || type == String.class, true);
+            } else {
+                due.is("a type of rule 3: " + name, plain || own, true);
+            }
+        }
     }
 
     private static int instanceFields(Class<?> c) {
